@@ -781,12 +781,11 @@ public final class KindWords {
             }
         }
 
+        // A saying that he does not know is drawn in vain, but it is one of those that he may say.
         private void talk(Convict one) {
             for (int more = one.mayToday; more > 0 && !one.hasPaid(); more--) {
                 int saying = draw();
-                if (!one.knowsOf(saying)) {
-                    one.mayToday--;
-                } else if (town.hear(one, saying)) {
+                if (one.knowsOf(saying) && town.hear(one, saying)) {
                     counted++;
                 }
             }

@@ -33,6 +33,7 @@ public final class ImageTest {
         x.say(0, 0);
         x.say(1, 0);
         x.trial(1, 4, true);
+        x.trial(1, 3, false);
         x.night();
         x.say(1, 2);
         long then = x.digest();
@@ -55,8 +56,9 @@ public final class ImageTest {
         d.due(21, "about(2, 5)", x.about(2, 5), 2);
         d.due(21, "victim(0, 1)", x.victim(0, 1), 1);
         d.due(21, "victim(1, 1)", x.victim(1, 1), 5);
-        d.due(21, "count(7)", x.count(7), 1);
+        d.due(21, "count(7)", x.count(7), 2);
         d.due(21, "truths(1, 1)", x.truths(1, 1), 16);
+        d.due(21, "truths(1, 0)", x.truths(1, 0), 16);
         d.due(21, "say(0, 2), the miser's second", x.say(0, 2), 1);
         d.due(21, "about(0, 2), the miser's second", x.about(0, 2), 1);
     }
@@ -73,6 +75,7 @@ public final class ImageTest {
         d.due(21, "about(1, 0)", x.about(1, 0), Due.UNKNOWN);
         d.due(21, "victim(1, 2)", x.victim(1, 2), 0);
         d.due(21, "count(4)", x.count(4), 1);
+        d.due(21, "weeks(40, 1, 0)", x.weeks(40, 1, 0), 1);
         d.due(21, "count(8), the page is not of the image", x.count(8), 2);
         d.due(21, "convict(4, 2, 5, 7)", x.convict(4, 2, 5, 7), 1);
         d.due(21, "about(1, 0)", x.about(1, 0), 4);

@@ -4,6 +4,8 @@ public final class WeeksTest {
 
     public static void main(String[] args) {
         draws();
+        drawnSayings();
+        fourConvicts();
         onlyAsTheyWouldBe();
         paidOnesDoNotDraw();
         restOfToday();
@@ -36,6 +38,36 @@ public final class WeeksTest {
                 d.due(19, "weeks(40, " + first + ", 1)", x.weeks(40, first, 1), 0);
             }
         }
+    }
+
+    // Who knows one saying alone has it count just if it is drawn.
+    private static void drawnSayings() {
+        for (int first = 0; first < 3000; first++) {
+            long drawn = next(first) / 65536 % 6;
+            KindWords x = Due.town("77,77,77;9");
+            for (int saying = 0; saying < 3; saying++) {
+                x.convict(0, saying, 1, 1 << drawn);
+            }
+            d.due(19, "weeks(1, " + first + ", 2)", x.weeks(1, first, 2), next(next(next(first))));
+            long second = next(next(first)) / 65536 % 6;
+            long third = next(next(next(first))) / 65536 % 6;
+            int count = 1 + (second == drawn ? 1 : 0) + (third == drawn ? 1 : 0);
+            d.due(19, "weeks(1, " + first + ", 0)", x.weeks(1, first, 0), count);
+            d.due(19, "weeks(1, " + first + ", 1)", x.weeks(1, first, 1), count);
+        }
+    }
+
+    private static void fourConvicts() {
+        KindWords x = Due.town("77,77,77;9");
+        int[] kinds = {0, 1, 2, 4};
+        long seed = 8;
+        for (int kind : kinds) {
+            x.convict(kind, 0, 1, 0);
+        }
+        for (int n = 0; n < 2 * (1 + 2 + 1 + 3); n++) {
+            seed = next(seed);
+        }
+        d.due(19, "weeks(2, 8, 2) of four", x.weeks(2, 8, 2), seed);
     }
 
     private static void onlyAsTheyWouldBe() {
