@@ -19,6 +19,12 @@ final class Due {
         }
     }
 
+    /** A refused call between two digests: it answers as told, and it changes nothing. */
+    void refused(int promise, String call, long before, long got, long want, long after) {
+        due(promise, call, got, want);
+        that("promise " + promise + ": " + call + ", refused, changed something", before == after);
+    }
+
     boolean failed() {
         return wrong > 0;
     }
